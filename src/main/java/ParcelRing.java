@@ -428,6 +428,9 @@ public final class ParcelRing {
             return BAD;
         }
         Text t = now.texts[text];
+        if (t == null) {
+            return BAD;
+        }
         return what == 0 ? t.key : t.leaves;
     }
 
@@ -1045,7 +1048,7 @@ public final class ParcelRing {
             return top >= 0 ? stack[top] : 0;
         }
 
-        static int joined(int sign, int a, int b) {
+        private static int joined(int sign, int a, int b) {
             switch (sign) {
                 case '|': return a != 0 || b != 0 ? 1 : 0;
                 case '&': return a != 0 && b != 0 ? 1 : 0;
@@ -1105,17 +1108,17 @@ public final class ParcelRing {
         }
 
         /** Only the first refusal counts: the one of the first word or sign that does not fit. */
-        void refuse() {
+        private void refuse() {
             if (fault < 0) {
                 fault = from;
             }
         }
 
-        boolean isByte(int place, int least, int most) {
+        private boolean isByte(int place, int least, int most) {
             return within(place, 0, length - 1) && within(bytes[place], least, most);
         }
 
-        void advance() {
+        private void advance() {
             boolean behindWord = token == WORD || token == NUMBER;
             from = until;
             while (from < length && isByte(from, ' ', ' ')) {
@@ -1137,7 +1140,7 @@ public final class ParcelRing {
             }
         }
 
-        int endOfRow(int least, int most) {
+        private int endOfRow(int least, int most) {
             int end = from;
             while (end < length && isByte(end, least, most)) {
                 end++;
@@ -1145,7 +1148,7 @@ public final class ParcelRing {
             return end;
         }
 
-        boolean isWord(String word) {
+        private boolean isWord(String word) {
             if (token != WORD || until - from != word.length()) {
                 return false;
             }
@@ -1157,7 +1160,7 @@ public final class ParcelRing {
             return true;
         }
 
-        void parseKey() {
+        private void parseKey() {
             if (isWord("hold")) {
                 key = OF_HOLD;
             } else if (isWord("stop")) {
@@ -1172,7 +1175,7 @@ public final class ParcelRing {
         }
 
         /** How tight a sign joins, or -1 if it joins nothing. */
-        static int tightness(int sign) {
+        private static int tightness(int sign) {
             switch (sign) {
                 case '|': return LOOSEST;
                 case '&': return 1;
@@ -1183,7 +1186,7 @@ public final class ParcelRing {
             }
         }
 
-        void parseJoined(int level, int open, int nots) {
+        private void parseJoined(int level, int open, int nots) {
             if (level > TIGHTEST) {
                 parsePiece(open, nots);
                 return;
@@ -1198,7 +1201,7 @@ public final class ParcelRing {
             }
         }
 
-        void parsePiece(int open, int nots) {
+        private void parsePiece(int open, int nots) {
             if (fault >= 0) {
                 return;
             }
@@ -1219,7 +1222,7 @@ public final class ParcelRing {
             }
         }
 
-        void parseClosing() {
+        private void parseClosing() {
             if (token == ')') {
                 advance();
             } else {
@@ -1227,7 +1230,7 @@ public final class ParcelRing {
             }
         }
 
-        int numberHere() {
+        private int numberHere() {
             int number = 0;
             for (int i = from; i < until && i < length; i++) {
                 number = number * 10 + bytes[i] - '0';
@@ -1236,18 +1239,18 @@ public final class ParcelRing {
         }
 
         /** Which of the values that the key has a name for, or -1. */
-        int nameHere() {
+        private int nameHere() {
             String names = key == OF_HOLD ? "haf" : key == OF_STOP ? "spt" : "ap";
             return until - from == 1 && from < length ? names.indexOf((char) bytes[from]) : -1;
         }
 
-        void addLeaf(int step) {
+        private void addLeaf(int step) {
             addStep(step);
             leaves++;
             advance();
         }
 
-        void addStep(int step) {
+        private void addStep(int step) {
             if (stepCount < MOST_BYTES) {
                 steps[stepCount] = step;
                 stepCount++;

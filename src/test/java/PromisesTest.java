@@ -198,8 +198,11 @@ public final class PromisesTest {
         text(x, "hold h-9");
         row(of(1, 1, 1), x.childTold(0, 3), x.childTold(1, 3), x.childTold(2, 3));
         x.sorts(0, 1);
-        text(x, "hold f*10");
-        due(10, x.childTold(0, 3));
+        text(x, "hold f*10+3");
+        due(13, x.childTold(0, 3));
+        // There is no paper left: it is plain.
+        x.go(1);
+        due(3, x.childTold(0, 3));
     }
 
     private static void lays() {
@@ -452,6 +455,7 @@ public final class PromisesTest {
         x = ring(4);
         x.stop(3, 9, 0);
         due(0, x.go(1));
+        row(of(1), hads(x));
     }
 
     private static void ruleGoes() {
@@ -632,6 +636,10 @@ public final class PromisesTest {
         x.lays(0, 1, 50);
         row(of(3, 99), x.pays(0, 60, 0), x.pays(0, 60, 1));
         row(of(1, 50, 0), x.childTold(0, 0), x.childTold(0, 1), x.count(4));
+        // Behind 8 seconds it is still there with a hold of 9 alone.
+        ParcelRing y = ring(1, 9);
+        y.stop(0, 8, 0);
+        row(of(9, 1), y.pays(0, 1, 0), y.pays(0, 1, 1));
     }
 
     private static void worst() {
@@ -687,6 +695,23 @@ public final class PromisesTest {
         row(of(39, 0), z.filmed(0, 0), z.filmed(0, 1));
         text(z, "hold h+5");
         row(of(0, 1), z.filmed(0, 0), z.filmed(0, 1));
+        // 40 seconds are tried, 41 are not; all 24 places may be wrong; where nobody has it, -1 tells it.
+        ParcelRing w = ring(1, 1);
+        text(w, "hold h*39+1");
+        w.stop(0, 0, 0);
+        w.sheet(0, 0, 1);
+        w.mark(0, 0, 1);
+        row(of(40, 0), w.filmed(0, 0), w.filmed(0, 1));
+        text(w, "hold h*40+1");
+        row(of(0, 1), w.filmed(0, 0), w.filmed(0, 1));
+        w.sheet(0, 1, 24);
+        for (int i = 0; i < 24; i++) w.mark(0, i, 7);
+        row(of(0, 24), w.filmed(0, 0), w.filmed(0, 1));
+        w.lays(0, 2, 1);
+        w.lays(1, 2, 1);
+        row(of(0, 24), w.filmed(0, 0), w.filmed(0, 1));
+        w.mark(0, 5, -1);
+        row(of(0, 23), w.filmed(0, 0), w.filmed(0, 1));
     }
 
     private static void fine() {
@@ -762,6 +787,9 @@ public final class PromisesTest {
         // A key that is none, a name that is none, or of another key.
         fault(0, "holds h");
         fault(0, "h");
+        fault(0, "bold h");
+        fault(0, "hole h");
+        fault(0, "hol h");
         fault(0, "12");
         fault(1, " Hold h");
         fault(0, "holdh");
@@ -814,6 +842,15 @@ public final class PromisesTest {
         gives(0, "7/(a-a)+0*a", 5, 0);
         gives(1, "1+1<3", 0, 0);
         gives(0, "3<1+1", 0, 0);
+        gives(1, "2<3", 0, 0);
+        gives(0, "2<2", 0, 0);
+        gives(0, "3<2", 0, 0);
+        gives(0, "2=3", 0, 0);
+        gives(1, "2=2", 0, 0);
+        gives(0, "2>3", 0, 0);
+        gives(0, "2>2", 0, 0);
+        gives(1, "3>2", 0, 0);
+        gives(9999, "9999", 0, 0);
         gives(1, "2=2&3>2", 0, 0);
         gives(1, "1|0&0", 0, 0);
         gives(0, "(1|0)&0", 0, 0);
@@ -829,6 +866,13 @@ public final class PromisesTest {
         gives(9999 * 9999 * 9999, "9999*9999*9999", 0, 0);
         gives(MIN, "(0-2*1024*1024*1024)/(0-1)", 0, 0);
         gives(12, "a*3+p", 3, 3);
+        // One text leaves nothing behind for the next.
+        ParcelRing y = ring(1);
+        for (int i = 0; i < 14; i++) {
+            due(i, text(y, "fine " + "1+".repeat(45) + i % 10));
+            row(of(45 + i % 10, 46), y.fine(0), y.textTold(i, 1));
+            due(-105, text(y, "fine x"));
+        }
         // It is used up, whatever is answered; fault goes ahead of FULL.
         ParcelRing x = new ParcelRing();
         for (int i = 0; i < 14; i++) due(i, text(x, "hold " + i));
