@@ -1,98 +1,7 @@
-import java.nio.charset.StandardCharsets;
 import java.util.Arrays;
 
 /** For each promise ordinary inputs, the edges that the document names, and wrong inputs, worked out by hand. */
-public final class PromisesTest {
-    private static final int BAD = ParcelRing.BAD, NO = ParcelRing.NO, FULL = ParcelRing.FULL, NONE = ParcelRing.NONE;
-    private static final int NOTHING = ParcelRing.NOTHING, KIND = ParcelRing.KIND, INDEX = ParcelRing.INDEX;
-    private static final int SIZE = ParcelRing.SIZE;
-    private static final int MIN = Integer.MIN_VALUE, MAX = Integer.MAX_VALUE;
-
-    private static int wrong = 0;
-    private static String promise = "";
-
-    private static void due(int want, int... gots) {
-        for (int i = 0; i < gots.length; i++) {
-            if (gots[i] != want) {
-                wrong++;
-                StackTraceElement at = new Throwable().getStackTrace()[1];
-                System.out.println(promise + ", line " + at.getLineNumber() + ", answer " + i + ": " + gots[i] + ", due is " + want);
-            }
-        }
-    }
-
-    private static void row(int[] want, int... gots) {
-        if (!Arrays.equals(want, gots)) {
-            wrong++;
-            StackTraceElement at = new Throwable().getStackTrace()[1];
-            System.out.println(promise + ", line " + at.getLineNumber() + ": " + Arrays.toString(gots) + ", due is " + Arrays.toString(want));
-        }
-    }
-
-    private static int[] of(int... numbers) {
-        return numbers;
-    }
-
-    private static ParcelRing ring(int... holds) {
-        ParcelRing x = new ParcelRing();
-        for (int hold : holds) x.child(hold);
-        return x;
-    }
-
-    private static void papers(ParcelRing x, int... sorts) {
-        for (int sort : sorts) x.paper(sort);
-    }
-
-    private static int[] hads(ParcelRing x) {
-        int[] hads = new int[x.count(0)];
-        for (int i = 0; i < hads.length; i++) hads[i] = x.childTold(i, 1);
-        return hads;
-    }
-
-    private static int four(byte[] b, int i) {
-        return (b[i] & 255) << 24 | (b[i + 1] & 255) << 16 | (b[i + 2] & 255) << 8 | b[i + 3] & 255;
-    }
-
-    private static void write(ParcelRing x, String s) {
-        x.trim(0);
-        byte[] b = Arrays.copyOf(s.getBytes(StandardCharsets.ISO_8859_1), (s.length() + 11) / 12 * 12);
-        for (int i = 0; i < b.length; i += 12) x.feed(four(b, i), four(b, i + 4), four(b, i + 8));
-        x.trim(s.length());
-    }
-
-    private static int text(ParcelRing x, String s) {
-        write(x, s);
-        return x.text();
-    }
-
-    private static void fault(int place, String s) {
-        int got = text(new ParcelRing(), s);
-        if (got != -100 - place) {
-            wrong++;
-            System.out.println(promise + ": '" + s + "' answered " + got + ", due is the fault " + place);
-        }
-    }
-
-    private static void good(String s) {
-        int got = text(new ParcelRing(), s);
-        if (got != 0) {
-            wrong++;
-            System.out.println(promise + ": '" + s + "' answered " + got + ", due is 0");
-        }
-    }
-
-    /** What a text of the key fine works out to for a child that has had so many, with so many taken. */
-    private static void gives(int want, String e, int had, int taken) {
-        ParcelRing x = ring(1);
-        x.lays(0, 1, had);
-        for (int i = 0; i < taken; i++) x.go(1);
-        text(x, "fine " + e);
-        if (x.fine(0) != want) {
-            wrong++;
-            System.out.println(promise + ": '" + e + "' gave " + x.fine(0) + ", due is " + want);
-        }
-    }
-
+public final class PromisesTest extends Checks {
     public static void main(String[] args) {
         promise = "promise 1"; fresh();
         promise = "promise 2"; child();
@@ -140,8 +49,7 @@ public final class PromisesTest {
         promise = "promise 44"; keep();
         promise = "promise 45"; back();
         promise = "promise 46"; count();
-        System.out.println(wrong == 0 ? "the promises hold" : wrong + " answers are not as due");
-        if (wrong != 0) System.exit(1);
+        finish("the promises hold");
     }
 
     private static void fresh() {
@@ -314,15 +222,6 @@ public final class PromisesTest {
         due(9, x.set(0, 2, 0));
         due(BAD, x.set(0, 1, 100), x.set(0, 1, -1), x.set(0, 2, 10), x.set(0, 2, -1), x.set(0, 0, 0), x.set(0, 3, 0), x.set(1, 1, 0), x.set(-1, 1, 0));
         row(of(1, 0, 0), x.told(0, 0), x.told(0, 1), x.told(0, 2));
-    }
-
-    private static int[] drawn(int z, int n) {
-        int[] draws = new int[n];
-        for (int i = 0; i < n; i++) {
-            z = z * 1103515245 + 12345;
-            draws[i] = z >>> 8;
-        }
-        return draws;
     }
 
     private static void deal() {
