@@ -1032,12 +1032,9 @@ public final class ParcelRing {
             int top = -1;
             for (int i = 0; i < steps.length; i++) {
                 int step = steps[i];
-                if (step >= NAME) {
+                if (step >= 0 && top + 1 < stack.length) {
                     top++;
-                    stack[top] = step == NAME ? first : step == NAME + 1 ? second : third;
-                } else if (step >= 0) {
-                    top++;
-                    stack[top] = step;
+                    stack[top] = step < NAME ? step : step == NAME ? first : step == NAME + 1 ? second : third;
                 } else if (step == -'!' && top >= 0) {
                     stack[top] = stack[top] == 0 ? 1 : 0;
                 } else if (top >= 1) {
@@ -1115,7 +1112,7 @@ public final class ParcelRing {
         }
 
         private boolean isByte(int place, int least, int most) {
-            return within(place, 0, length - 1) && within(bytes[place], least, most);
+            return place >= 0 && place < length && bytes[place] >= least && bytes[place] <= most;
         }
 
         private void advance() {
@@ -1207,8 +1204,10 @@ public final class ParcelRing {
             }
             if (token == NUMBER) {
                 addLeaf(numberHere());
+                advance();
             } else if (token == WORD && nameHere() >= 0) {
                 addLeaf(Text.NAME + nameHere());
+                advance();
             } else if (token == '!' && nots < MOST_OPEN) {
                 advance();
                 parsePiece(open, nots + 1);
@@ -1247,7 +1246,6 @@ public final class ParcelRing {
         private void addLeaf(int step) {
             addStep(step);
             leaves++;
-            advance();
         }
 
         private void addStep(int step) {

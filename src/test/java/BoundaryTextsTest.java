@@ -142,6 +142,26 @@ public final class BoundaryTextsTest extends Checks {
         row(everything(y), everything(x));
     }
 
+    // "uses it up": a TEXT has nothing of the longest one that came ahead of it
+    static void promise30_nothingIsLeftOfTheLastText() {
+        ParcelRing x = ring(1);
+        for (int i = 0; i < 14; i++) {
+            due(i, text(x, "fine " + "1+".repeat(45) + i % 10));
+            row(of(45 + i % 10, 46), x.fine(0), x.textTold(i, 1));
+        }
+    }
+
+    // Behind a FAULT, in whatever word or sign it was, a TEXT begins anew: its first word needs no blank.
+    static void promise30_nothingIsLeftOfAFault() {
+        String[] faults = {"hold h 3", "hold 3 h", "hold hh", "hold 12345", "hold h)", "hold (", "hol", "", "hold3"};
+        ParcelRing x = new ParcelRing();
+        for (int i = 0; i < faults.length; i++) {
+            due(-100, text(x, faults[i]) < -99 ? -100 : 0);
+            due(i, text(x, "fine 1"));
+            due(1, x.textTold(i, 1));
+        }
+    }
+
     // "96 bytes": a TEXT that fills the tape, and the FAULT behind its last byte
     static void promise30_aTextOf96Bytes() {
         ParcelRing x = ring(1);
