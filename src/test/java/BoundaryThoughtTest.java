@@ -480,6 +480,15 @@ public final class BoundaryThoughtTest extends Checks {
         row(of(0, 0), y.worst(60, 0), y.worst(60, 1));
     }
 
+    // "without the bound of TAKEN": all papers are taken, the turns go on
+    static void promise25_beyond9999() {
+        ParcelRing x = ring(1, 2, 3);
+        papers(x, 0, 0);
+        takeUpTo(x, 9999);
+        x.stop(0, 1, 0);
+        row(of(0, 1, 0, 60), x.worst(1, 0), x.worst(1, 1), x.worst(60, 0), x.worst(60, 1));
+    }
+
     static void promise25_nothingChanges() {
         thought(x -> x.worst(1, 0), x -> x.worst(60, 1));
     }
