@@ -60,7 +60,8 @@ public final class ReadmeTest {
         return made;
     }
 
-    private static int number(String word) throws Exception {
+    private static int number(String written) throws Exception {
+        String word = written.replace("ParcelRing.", "");
         return word.matches("[A-Z]+") ? ParcelRing.class.getField(word).getInt(null) : Integer.decode(word);
     }
 
